@@ -177,7 +177,7 @@ public final class Portsmith {
     Version of = packs[pack].versions[version];
     checkRoom(of.providedCount, PROVIDED);
     of.providedPacks[of.providedCount] = other;
-    of.providedNumbers[of.providedCount] = number;
+    of.providedDigits[of.providedCount] = Test.digitsOf(number);
     of.providedCount++;
     return of.providedCount;
   }
@@ -202,7 +202,7 @@ public final class Portsmith {
     Pack of = packs[pack];
     int bits = 0;
     for (int version = 0; version < of.count; version++) {
-      if (range.includes(of.versions[version].number, of.scheme)) {
+      if (range.includes(of.versions[version].digits, of.scheme)) {
         bits |= 1 << version;
       }
     }
@@ -574,7 +574,7 @@ public final class Portsmith {
 
   private boolean isIncluded(Range range, int pack, int version) {
     return version != NONE
-        && range.includes(packs[pack].versions[version].number, packs[pack].scheme);
+        && range.includes(packs[pack].versions[version].digits, packs[pack].scheme);
   }
 
   private int allWishes() {
@@ -611,28 +611,19 @@ public final class Portsmith {
     /** Returns null for a text with a fault; the reader stands at its place then. */
     Range readRange() {
       Range range = new Range();
+      boolean opensPart = true;
       place = 0;
       isFaulty = false;
-      for (int part = 0; part <= TAPE; part++) {
-        readPart(range);
-        if (!takes('|')) {
+      for (int i = 0; i <= TAPE; i++) {
+        boolean isAll = opensPart && takes('*');
+        range.add(isAll ? new Test(Test.ALL, Test.RELEASE, false, true) : readTest(opensPart));
+        boolean goesOn = !isAll && takes(',');
+        opensPart = !goesOn && takes('|');
+        if (!goesOn && !opensPart) {
           break;
         }
       }
       return isFaulty || place < length ? null : range;
-    }
-
-    private void readPart(Range range) {
-      if (takes('*')) {
-        range.add(new Test(Test.ALL, 0, false, true));
-        return;
-      }
-      for (int test = 0; test <= TAPE; test++) {
-        range.add(readTest(test == 0));
-        if (!takes(',')) {
-          return;
-        }
-      }
     }
 
     private Test readTest(boolean opensPart) {
@@ -646,7 +637,7 @@ public final class Portsmith {
       int patch = tellsMinor && takes('.') ? readDigit() : 0;
       int preview = takes('-') ? readDigit() : 0;
       int number = (((epoch * 10 + major) * 10 + minor) * 10 + patch) * 10 + preview;
-      return new Test(kind, number, tellsMinor, opensPart);
+      return new Test(kind, Test.digitsOf(number), tellsMinor, opensPart);
     }
 
     private int readKind() {
@@ -689,7 +680,11 @@ public final class Portsmith {
     }
   }
 
-  /** One test of a range, or the * for all releases. */
+  /**
+   * One test of a range, or the * for all releases. It knows a version by five hexadecimal digits:
+   * epoch, major, minor, patch, and the preview, or RELEASE, which is above all previews. In these
+   * a next one has room for its 10.
+   */
   private static final class Test {
     static final int ALL = 0;
     static final int EQUAL = 1;
@@ -700,81 +695,66 @@ public final class Portsmith {
     static final int CARET = 6;
     static final int TILDE = 7;
 
-    // Above each digit, and above the 10 of a next one.
-    private static final int BASE = 16;
-    private static final int RELEASE = 10;
+    static final int RELEASE = 10;
 
-    final int kind;
-    final int number;
-    final boolean tellsMinor;
+    private static final int MAJOR = 0x1000;
+    private static final int MINOR = 0x100;
+    private static final int PATCH = 0x10;
+    private static final int ABOVE_ALL = 0x100000;
+
+    final int digits;
     final boolean opensPart;
+    // By schemes: the lowest rank that it accepts, and the lowest one above that it does not.
+    final int[] from = new int[LAST + 1];
+    final int[] below = new int[LAST + 1];
 
-    Test(int kind, int number, boolean tellsMinor, boolean opensPart) {
-      this.kind = kind;
-      this.number = number;
-      this.tellsMinor = tellsMinor;
+    Test(int kind, int digits, boolean tellsMinor, boolean opensPart) {
+      this.digits = digits;
       this.opensPart = opensPart;
-    }
-
-    /** Of two numbers the one that is above has the greater rank; alike ones have the same. */
-    static int rank(int number, int scheme) {
-      int mark = number % 10 == 0 ? RELEASE : number % 10;
-      int three = threeOf(scheme, number / 1000 % 10, number / 100 % 10, number / 10 % 10);
-      return rankOf(scheme, number / 10000, three, mark);
-    }
-
-    private static int threeOf(int scheme, int major, int minor, int patch) {
-      return scheme == LAST
-          ? (patch * BASE + major) * BASE + minor
-          : (major * BASE + minor) * BASE + patch;
-    }
-
-    private static int rankOf(int scheme, int epoch, int three, int mark) {
-      int head = scheme == EPOCHS ? epoch : 0;
-      return (head * BASE * BASE * BASE + three) * BASE + mark;
-    }
-
-    boolean accepts(int candidate, int scheme) {
-      if (kind == ALL) {
-        return candidate % 10 == 0;
+      for (int scheme = NUMBERS; scheme <= LAST; scheme++) {
+        int rank = rank(digits, scheme);
+        boolean isOpenBelow = kind == ALL || kind == BELOW || kind == UP_TO;
+        boolean isOpenAbove = kind == ALL || kind == ABOVE || kind == FROM;
+        from[scheme] = isOpenBelow ? 0 : kind == ABOVE ? rank + 1 : rank;
+        below[scheme] = isOpenAbove ? ABOVE_ALL : kind == BELOW ? rank : rank + 1;
+        if (kind == CARET || kind == TILDE) {
+          below[scheme] = rank(next(kind, digits, tellsMinor), scheme);
+        }
       }
-      int above = Integer.compare(rank(candidate, scheme), rank(number, scheme));
-      switch (kind) {
-        case EQUAL:
-          return above == 0;
-        case ABOVE:
-          return above > 0;
-        case BELOW:
-          return above < 0;
-        case FROM:
-          return above >= 0;
-        case UP_TO:
-          return above <= 0;
-        default:
-          return above >= 0 && rank(candidate, scheme) < nextRank(scheme);
+    }
+
+    static int digitsOf(int number) {
+      int digits = number % 10 == 0 ? RELEASE : number % 10;
+      digits |= number / 10 % 10 << 4;
+      digits |= number / 100 % 10 << 8;
+      digits |= number / 1000 % 10 << 12;
+      return digits | number / 10000 % 10 << 16;
+    }
+
+    /** Of two versions the one that is above has the greater rank; alike ones have the same. */
+    static int rank(int digits, int scheme) {
+      if (scheme == EPOCHS) {
+        return digits;
       }
+      if (scheme == LAST) {
+        return (digits >> 4 & 15) << 12 | (digits >> 8 & 255) << 4 | digits & 15;
+      }
+      return digits & 0xFFFF;
+    }
+
+    private static int next(int kind, int digits, boolean tellsMinor) {
+      boolean hasMajor = (digits >> 12 & 15) != 0;
+      boolean hasMinor = (digits >> 8 & 15) != 0;
+      int step = kind == CARET && !hasMajor && !hasMinor ? PATCH : MINOR;
+      if (kind == CARET ? hasMajor : !tellsMinor) {
+        step = MAJOR;
+      }
+      // All digits behind the one that is 1 more are 0.
+      return (digits & -step) + step + RELEASE;
     }
 
     boolean tellsPreviewOf(int candidate) {
-      return kind != ALL && number % 10 != 0 && number / 10 == candidate / 10;
-    }
-
-    // The next one may have a 10 in it, so it has a rank, but no number of five digits.
-    private int nextRank(int scheme) {
-      int major = number / 1000 % 10;
-      int minor = number / 100 % 10;
-      int patch = number / 10 % 10;
-      boolean movesMajor = kind == CARET ? major != 0 : !tellsMinor;
-      boolean movesMinor = !movesMajor && (kind == TILDE || minor != 0);
-      int three;
-      if (movesMajor) {
-        three = threeOf(scheme, major + 1, 0, 0);
-      } else if (movesMinor) {
-        three = threeOf(scheme, major, minor + 1, 0);
-      } else {
-        three = threeOf(scheme, major, minor, patch + 1);
-      }
-      return rankOf(scheme, number / 10000, three, RELEASE);
+      return (digits & 15) != RELEASE && digits >> 4 == candidate >> 4;
     }
   }
 
@@ -790,8 +770,9 @@ public final class Portsmith {
       }
     }
 
-    boolean includes(int number, int scheme) {
-      boolean isRelease = number % 10 == 0;
+    boolean includes(int digits, int scheme) {
+      int rank = Test.rank(digits, scheme);
+      boolean isRelease = (digits & 15) == Test.RELEASE;
       boolean isAccepted = false;
       boolean isTold = false;
       for (int i = 0; i < count; i++) {
@@ -803,8 +784,8 @@ public final class Portsmith {
           isAccepted = true;
           isTold = isRelease;
         }
-        isAccepted = isAccepted && test.accepts(number, scheme);
-        isTold = isTold || test.tellsPreviewOf(number);
+        isAccepted = isAccepted && test.from[scheme] <= rank && rank < test.below[scheme];
+        isTold = isTold || test.tellsPreviewOf(digits);
       }
       return isAccepted && isTold;
     }
@@ -817,13 +798,13 @@ public final class Portsmith {
 
     int order(int one, int other) {
       int byRank = Integer.compare(
-          Test.rank(versions[one].number, scheme), Test.rank(versions[other].number, scheme));
+          Test.rank(versions[one].digits, scheme), Test.rank(versions[other].digits, scheme));
       return byRank != 0 ? byRank : Integer.compare(one, other);
     }
   }
 
   private static final class Version {
-    final int number;
+    final int digits;
     final int features;
     final int licence;
     final int content;
@@ -834,7 +815,7 @@ public final class Portsmith {
     final Need[] conflicts = new Need[CONFLICTS];
     int conflictCount = 0;
     final int[] providedPacks = new int[PROVIDED];
-    final int[] providedNumbers = new int[PROVIDED];
+    final int[] providedDigits = new int[PROVIDED];
     int providedCount = 0;
     final int[] filePaths = new int[FILES];
     final int[] fileContents = new int[FILES];
@@ -843,7 +824,7 @@ public final class Portsmith {
     final int[] told = {NONE, NONE, NONE};
 
     Version(int number, int features, int licence, int content) {
-      this.number = number;
+      digits = Test.digitsOf(number);
       this.features = features;
       this.licence = licence;
       this.content = content;
@@ -855,7 +836,7 @@ public final class Portsmith {
 
     boolean provides(int pack, Range range, int scheme) {
       for (int i = 0; i < providedCount; i++) {
-        if (providedPacks[i] == pack && range.includes(providedNumbers[i], scheme)) {
+        if (providedPacks[i] == pack && range.includes(providedDigits[i], scheme)) {
           return true;
         }
       }
@@ -968,55 +949,37 @@ public final class Portsmith {
       }
       for (int pack = 0; pack < PACKS; pack++) {
         for (int version = 0; version < packs[pack].count; version++) {
-          studyNeeds(packs[pack].versions[version]);
-          studyConflicts(pack, version);
+          Version of = packs[pack].versions[version];
+          for (int i = 0; i < of.needCount; i++) {
+            of.needs[i].metBy = meeting(of.needs[i]);
+          }
+          for (int i = 0; i < of.conflictCount; i++) {
+            // What its own package provides does not count.
+            part(pack, version, meeting(of.conflicts[i]) & ~bitsOf(pack));
+          }
         }
       }
     }
 
-    private void studyNeeds(Version of) {
-      for (int i = 0; i < of.needCount; i++) {
-        if ((of.needs[i].platforms & platformBit) != 0) {
-          of.needs[i].metBy = meeting(of.needs[i]);
-        }
-      }
-    }
-
-    private void studyConflicts(int pack, int version) {
-      Version of = packs[pack].versions[version];
-      int ruledOut = 0;
-      for (int i = 0; i < of.conflictCount; i++) {
-        ruledOut |= meeting(of.conflicts[i]);
-      }
-      // What its own package provides does not count.
-      ruledOut &= ~bitsOf(pack);
-      enemies[pack * VERSIONS + version] |= ruledOut;
+    private void part(int pack, int version, int others) {
+      enemies[pack * VERSIONS + version] |= others;
       for (int i = 0; i < ALL_VERSIONS; i++) {
-        if ((ruledOut >> i & 1) != 0) {
+        if ((others >> i & 1) != 0) {
           enemies[i] |= bitOf(pack, version);
         }
       }
     }
 
     private int meeting(Need need) {
-      Pack wanted = packs[need.pack];
-      int bits = 0;
-      for (int version = 0; version < wanted.count; version++) {
-        Version of = wanted.versions[version];
-        if ((need.features & ~of.features) == 0 && need.range.includes(of.number, wanted.scheme)) {
-          bits |= bitOf(need.pack, version);
-        }
-      }
-      return need.features == 0 ? bits | providing(need.pack, need.range) : bits;
-    }
-
-    private int providing(int wanted, Range range) {
+      int scheme = packs[need.pack].scheme;
       int bits = 0;
       for (int pack = 0; pack < PACKS; pack++) {
         for (int version = 0; version < packs[pack].count; version++) {
-          if (packs[pack].versions[version].provides(wanted, range, packs[wanted].scheme)) {
-            bits |= bitOf(pack, version);
-          }
+          Version of = packs[pack].versions[version];
+          boolean isMet = pack == need.pack
+              ? (need.features & ~of.features) == 0 && need.range.includes(of.digits, scheme)
+              : need.features == 0 && of.provides(need.pack, need.range, scheme);
+          bits |= isMet ? bitOf(pack, version) : 0;
         }
       }
       return bits;
@@ -1064,7 +1027,7 @@ public final class Portsmith {
           choice |= bitOf(pack, chosen[pack]);
         }
       }
-      return isFree && (choice & ~permitted) == 0 && isClosed();
+      return isFree && (choice & ~permitted) == 0 && areMet(0, choice) && reached == choice;
     }
 
     // What no wish can lead to, were all features on, is in no closure: it need not be tried.
@@ -1102,13 +1065,18 @@ public final class Portsmith {
     // None of a package goes first, then its versions from the greatest on: so of alike solutions
     // the first one is the one that is due.
     private void search(int pack, int changes, int size) {
-      if (isSettled(changes, size) || !isHopeful(pack)) {
+      if (isSettled(changes, size)) {
         return;
       }
       if (pack >= PACKS) {
-        if (isClosed()) {
+        if (areMet(0, choice) && reached == choice) {
           record(changes, size);
         }
+        return;
+      }
+      // In the end all that are chosen must be reached, and what they need must be met, by what is
+      // chosen already or may still be.
+      if (!areMet(choice, choice | open[pack])) {
         return;
       }
       branch(pack, NONE, changes, size);
@@ -1151,33 +1119,6 @@ public final class Portsmith {
       return goal == ANY || changes > bestChanges || changes == bestChanges && size >= bestSize;
     }
 
-    // All that are chosen must be reached, so all needs that they always have must be met.
-    private boolean isHopeful(int pack) {
-      int pool = choice | open[pack];
-      for (int i = 0; i < wishCount; i++) {
-        if ((asked >> i & 1) != 0 && (wishes[i].metBy & pool) == 0) {
-          return false;
-        }
-      }
-      for (int i = 0; i < pack; i++) {
-        if (chosen[i] != NONE && !canHaveNeedsMet(packs[i].versions[chosen[i]], pool)) {
-          return false;
-        }
-      }
-      return true;
-    }
-
-    private boolean canHaveNeedsMet(Version of, int pool) {
-      for (int i = 0; i < of.needCount; i++) {
-        Need need = of.needs[i];
-        boolean isAlways = need.own == NONE && (need.platforms & platformBit) != 0;
-        if (isAlways && (need.metBy & pool) == 0) {
-          return false;
-        }
-      }
-      return true;
-    }
-
     private void record(int changes, int size) {
       found++;
       bestChanges = changes;
@@ -1187,44 +1128,44 @@ public final class Portsmith {
       }
     }
 
-    /** Follows wishes and needs through the choice: each must be met, and each version reached. */
-    private boolean isClosed() {
-      reached = 0;
+    /**
+     * Follows the wishes, and the active needs of what is reached, to the versions of the pool by
+     * which they are met; returns whether each of them is.
+     */
+    private boolean areMet(int reachedAtFirst, int pool) {
+      reached = reachedAtFirst;
       featuresOn = 0;
       for (int i = 0; i < wishCount; i++) {
-        if ((asked >> i & 1) != 0 && !follows(wishes[i])) {
+        if ((asked >> i & 1) != 0 && !isMet(wishes[i], pool)) {
           return false;
         }
       }
       for (int pass = 0; pass < PASSES; pass++) {
         int reachedBefore = reached;
         int onBefore = featuresOn;
-        if (!followsReached()) {
-          return false;
+        for (int pack = 0; pack < PACKS; pack++) {
+          if (isReached(pack) && !hasNeedsMet(pack, pool)) {
+            return false;
+          }
         }
         if (reached == reachedBefore && featuresOn == onBefore) {
-          return reached == choice;
-        }
-      }
-      return false;
-    }
-
-    private boolean followsReached() {
-      for (int pack = 0; pack < PACKS; pack++) {
-        if ((reached & bitsOf(pack)) != 0 && !followsNeeds(pack)) {
-          return false;
+          break;
         }
       }
       return true;
     }
 
-    private boolean followsNeeds(int pack) {
+    private boolean isReached(int pack) {
+      return chosen[pack] != NONE && (reached & bitOf(pack, chosen[pack])) != 0;
+    }
+
+    private boolean hasNeedsMet(int pack, int pool) {
       Version of = packs[pack].versions[chosen[pack]];
       for (int i = 0; i < of.needCount; i++) {
         Need need = of.needs[i];
         int on = featuresOn >> (pack * FEATURE_BITS);
         boolean isOn = need.own == NONE || (on & need.own) != 0;
-        if (isOn && (need.platforms & platformBit) != 0 && !follows(need)) {
+        if (isOn && (need.platforms & platformBit) != 0 && !isMet(need, pool)) {
           return false;
         }
       }
@@ -1232,8 +1173,8 @@ public final class Portsmith {
     }
 
     // Features that are asked for are met by a version of that very package: it is chosen then.
-    private boolean follows(Need need) {
-      int met = need.metBy & choice;
+    private boolean isMet(Need need, int pool) {
+      int met = need.metBy & pool;
       reached |= met;
       featuresOn |= need.features << (need.pack * FEATURE_BITS);
       return met != 0;
