@@ -8,6 +8,7 @@ public final class InstallTest {
     nothing();
     laysFiles();
     clearsPaths();
+    edges();
     cutOff();
     twoOnOnePath();
     diverted();
@@ -85,6 +86,8 @@ public final class InstallTest {
     Check.is("one", 1, () -> x.divert(0, 0, 1));
     Check.is("for another instead", 1, () -> x.divert(5, 0, 2));
     Check.is("two", 2, () -> x.divert(5, 15, 0));
+    Check.is("to the last path", 2, () -> x.divert(5, 15, 14));
+    Check.is("from the first to the last", 2, () -> x.divert(5, 0, 15));
     Check.noPlace("package 6", () -> x.divert(6, 1, 1));
     Check.noPlace("package -2", () -> x.divert(-2, 1, 2));
     Check.noArgument("path 16", () -> x.divert(0, 16, 1));
@@ -154,6 +157,33 @@ public final class InstallTest {
     Check.is("one goes, one comes, the last", 3, x::steps);
     has(x, 4, 44, 1, 44);
     hasNothing(x, 2);
+  }
+
+  private static void edges() {
+    Portsmith x = withVersions(2);
+    x.file(0, 1, 0, 1, false);
+    x.file(0, 1, 15, 2, true);
+    x.file(1, 1, 0, 3, false);
+    lock(x, 0, 1);
+    x.install(0, 99);
+    Check.is("the first path", 1, () -> x.edit(0, 10));
+    Check.is("the last path", 2, () -> x.edit(15, 20));
+    has(x, 0, 10, 0, 1);
+    has(x, 15, 20, 0, 2);
+    Check.is("both are rolled back", 2, () -> x.rollback(0));
+    has(x, 0, 1, 0, 1);
+    has(x, 15, 2, 0, 2);
+    lock(x, 0, 1, 1, 1);
+    Check.is("two on the first path", -2, () -> x.install(0, 99));
+    x.divert(1, 0, 14);
+    Check.is("diverted", 1, () -> x.install(0, 99));
+    has(x, 0, 3, 1, 3);
+    has(x, 14, 1, 0, 1);
+    lock(x);
+    Check.is("all go", 2, () -> x.install(0, 99));
+    Check.is("a step each, and the last", 4, x::steps);
+    hasNothing(x, 0);
+    hasNothing(x, 15);
   }
 
   private static void cutOff() {

@@ -13,11 +13,14 @@ public final class SolveTest {
     countsNoLockOfOne();
     features();
     featuresAskedByMoreThanOne();
+    featuresAskedLate();
     platforms();
     provided();
     providedBySchemes();
     meetsItself();
     conflicts();
+    conflictsBySchemes();
+    moreConflicts();
     licences();
     yanked();
     unreached();
@@ -246,6 +249,23 @@ public final class SolveTest {
     told("with no feature on", x, 0, NONE, 0, NONE, NONE);
   }
 
+  private static void featuresAskedLate() {
+    Portsmith x = new Portsmith();
+    x.version(0, 1000, 1, 0, 0);
+    Check.version(x, 1, 1000);
+    Check.tape(x, "*");
+    x.need(0, 0, 2, 0, 7, 1);
+    Check.tape(x, "*");
+    x.need(1, 0, 0, 1, 7, NONE);
+    Check.wish(x, 0, "*", 0);
+    Check.wish(x, 1, "*", 0);
+    // Both are reached by wishes; only then the feature is on, and there is no package 2.
+    Check.is("the need is not met", 0, () -> x.closures(0));
+    Check.is("for the wish that asks for the feature", 2, () -> x.story(0));
+    Check.version(x, 2, 1000);
+    Check.is("it is", 1, () -> x.closures(0));
+  }
+
   private static void platforms() {
     Portsmith x = new Portsmith();
     for (int pack = 0; pack < 3; pack++) {
@@ -340,6 +360,41 @@ public final class SolveTest {
     Check.wish(x, 0, "*", 0);
     Check.is("without the other", 0, () -> x.solve(0, NONE));
     told("0 alone", x, 0, 0, NONE);
+  }
+
+  private static void conflictsBySchemes() {
+    Portsmith x = new Portsmith();
+    for (int pack = 0; pack < 3; pack++) {
+      Check.version(x, pack, 11000);
+      Check.wish(x, pack, "*", 0);
+    }
+    Check.conflict(x, 0, 0, 1, "=1");
+    Check.conflict(x, 2, 0, 1, "=1");
+    Check.is("by NUMBERS they hold", 0, () -> x.closures(0));
+    x.scheme(1, Portsmith.EPOCHS);
+    Check.is("by EPOCHS they do not", 1, () -> x.closures(0));
+    x.scheme(1, Portsmith.LAST);
+    Check.is("by LAST they do", 3, () -> x.story(0));
+  }
+
+  private static void moreConflicts() {
+    Portsmith x = new Portsmith();
+    for (int pack = 0; pack < 4; pack++) {
+      Check.version(x, pack, 1000);
+    }
+    Check.conflict(x, 3, 0, 1, "*");
+    Check.conflict(x, 3, 0, 2, "*");
+    Check.conflict(x, 0, 0, 2, "*");
+    for (int pack = 0; pack < 3; pack++) {
+      x.unwish();
+      Check.wish(x, 3, "*", 0);
+      Check.wish(x, pack, "*", 0);
+      Check.is("3 with " + pack, pack == 0 ? NONE : 3, () -> x.story(0));
+      x.unwish();
+      Check.wish(x, pack, "*", 0);
+      Check.wish(x, 2, "*", 0);
+      Check.is("2 with " + pack, pack == 0 ? 3 : NONE, () -> x.story(0));
+    }
   }
 
   private static void licences() {

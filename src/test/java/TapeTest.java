@@ -14,6 +14,7 @@ public final class TapeTest {
     Check.is("eight of them", 11, () -> x.type(Check.packed("abcdefgh"), 8));
     Check.noArgument("n 0", () -> x.type('*', 0));
     Check.noArgument("n 9", () -> x.type('*', 9));
+    Check.noArgument("n 9, all in range", () -> x.type(Check.packed("abcdefgh"), 9));
     Check.noArgument("n -1", () -> x.type('*', -1));
     Check.noArgument("n least", () -> x.type('*', Integer.MIN_VALUE));
     Check.noArgument("a space", () -> x.type(32, 1));

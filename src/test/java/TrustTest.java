@@ -37,6 +37,7 @@ public final class TrustTest {
     Check.holds("not by the new one alone", false, () -> x.role(6, 1, 6));
     Check.holds("not by the old one alone", false, () -> x.role(6, 1, 1));
     Check.holds("by both", true, () -> x.role(6, 2, 7));
+    Check.holds("unsigned", false, () -> x.role(1, 1, 0));
     Check.holds("one of two", false, () -> x.role(1, 1, 3));
     Check.holds("two of two, and the new one", true, () -> x.role(31, 3, 14));
     Check.holds("two of three", false, () -> x.role(1, 1, 17));
