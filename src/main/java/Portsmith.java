@@ -86,7 +86,7 @@ public final class Portsmith {
 
   // ---- the tape
 
-  public int type(long characters, int n) {
+  public int type(long characters, int n) throws IllegalArgumentException, IllegalStateException {
     if (n < 1 || n > TYPED_AT_ONCE) {
       throw new IllegalArgumentException("n is 1 to 8");
     }
@@ -117,7 +117,8 @@ public final class Portsmith {
 
   // ---- packages, versions
 
-  public int scheme(int pack, int scheme) {
+  public int scheme(int pack, int scheme)
+      throws IndexOutOfBoundsException, IllegalArgumentException {
     checkPack(pack);
     if (scheme < NUMBERS || scheme > LAST) {
       throw new IllegalArgumentException("no such scheme");
@@ -127,7 +128,8 @@ public final class Portsmith {
     return was;
   }
 
-  public int version(int pack, int number, int features, int licence, int content) {
+  public int version(int pack, int number, int features, int licence, int content)
+      throws IndexOutOfBoundsException, IllegalArgumentException, IllegalStateException {
     checkPack(pack);
     checkRange(number, 0, HIGHEST_NUMBER);
     checkRange(features, 0, ALL_FEATURES);
@@ -140,7 +142,8 @@ public final class Portsmith {
     return of.count - 1;
   }
 
-  public int need(int pack, int version, int other, int features, int platforms, int own) {
+  public int need(int pack, int version, int other, int features, int platforms, int own)
+      throws IndexOutOfBoundsException, IllegalArgumentException, IllegalStateException {
     checkVersion(pack, version);
     checkPack(other);
     checkRange(features, 0, ALL_FEATURES);
@@ -156,7 +159,8 @@ public final class Portsmith {
     return of.needCount;
   }
 
-  public int conflict(int pack, int version, int other) {
+  public int conflict(int pack, int version, int other)
+      throws IndexOutOfBoundsException, IllegalArgumentException, IllegalStateException {
     checkVersion(pack, version);
     checkPack(other);
     checkOther(pack, other);
@@ -169,7 +173,8 @@ public final class Portsmith {
     return of.conflictCount;
   }
 
-  public int provide(int pack, int version, int other, int number) {
+  public int provide(int pack, int version, int other, int number)
+      throws IndexOutOfBoundsException, IllegalArgumentException, IllegalStateException {
     checkVersion(pack, version);
     checkPack(other);
     checkOther(pack, other);
@@ -182,7 +187,7 @@ public final class Portsmith {
     return of.providedCount;
   }
 
-  public boolean yank(int pack, int version, boolean is) {
+  public boolean yank(int pack, int version, boolean is) throws IndexOutOfBoundsException {
     checkVersion(pack, version);
     Version of = packs[pack].versions[version];
     boolean was = of.isYanked;
@@ -190,13 +195,13 @@ public final class Portsmith {
     return was;
   }
 
-  public int compare(int pack, int one, int other) {
+  public int compare(int pack, int one, int other) throws IndexOutOfBoundsException {
     checkVersion(pack, one);
     checkVersion(pack, other);
     return packs[pack].order(one, other);
   }
 
-  public int within(int pack) {
+  public int within(int pack) throws IndexOutOfBoundsException, IllegalArgumentException {
     checkPack(pack);
     Range range = tapeAsRange();
     Pack of = packs[pack];
@@ -211,7 +216,8 @@ public final class Portsmith {
 
   // ---- wishes, solutions
 
-  public int wish(int pack, int features) {
+  public int wish(int pack, int features)
+      throws IndexOutOfBoundsException, IllegalArgumentException, IllegalStateException {
     checkPack(pack);
     checkRange(features, 0, ALL_FEATURES);
     Range range = tapeAsRange();
@@ -228,14 +234,14 @@ public final class Portsmith {
     return had;
   }
 
-  public int policy(int licences) {
+  public int policy(int licences) throws IllegalArgumentException {
     checkRange(licences, 0, ALL_LICENCES);
     int was = this.licences;
     this.licences = licences;
     return was;
   }
 
-  public int solve(int platform, int but) {
+  public int solve(int platform, int but) throws IndexOutOfBoundsException {
     checkPlatform(platform);
     if (but != NONE) {
       checkPack(but);
@@ -248,19 +254,19 @@ public final class Portsmith {
     return isProposed[platform] ? solver.bestChanges : NONE;
   }
 
-  public int proposed(int platform, int pack) {
+  public int proposed(int platform, int pack) throws IndexOutOfBoundsException {
     checkPlatform(platform);
     checkPack(pack);
     return proposals[platform][pack];
   }
 
-  public int closures(int platform) {
+  public int closures(int platform) throws IndexOutOfBoundsException {
     checkPlatform(platform);
     prepareSolver(platform, 0);
     return solver.seek(allWishes(), Solver.EACH);
   }
 
-  public int story(int platform) {
+  public int story(int platform) throws IndexOutOfBoundsException {
     checkPlatform(platform);
     prepareSolver(platform, ALL_PACKS);
     // What all wishes have a closure for, fewer have too: then no set is without one.
@@ -277,7 +283,7 @@ public final class Portsmith {
     return allWishes();
   }
 
-  public int lock(int platform) {
+  public int lock(int platform) throws IndexOutOfBoundsException, IllegalStateException {
     checkPlatform(platform);
     if (!isProposed[platform]) {
       throw new IllegalStateException("nothing is proposed");
@@ -290,19 +296,20 @@ public final class Portsmith {
     return count;
   }
 
-  public int locked(int platform, int pack) {
+  public int locked(int platform, int pack) throws IndexOutOfBoundsException {
     checkPlatform(platform);
     checkPack(pack);
     return locks[platform][pack];
   }
 
-  public boolean holds(int platform) {
+  public boolean holds(int platform) throws IndexOutOfBoundsException {
     checkPlatform(platform);
     prepareSolver(platform, 0);
     return solver.isClosure(allWishes(), locks[platform]);
   }
 
-  public int advise(int pack, int severity) {
+  public int advise(int pack, int severity)
+      throws IndexOutOfBoundsException, IllegalArgumentException, IllegalStateException {
     checkPack(pack);
     checkRange(severity, 1, HIGHEST_SEVERITY);
     Range range = tapeAsRange();
@@ -313,7 +320,8 @@ public final class Portsmith {
     return advisoryCount;
   }
 
-  public int advised(int platform, int severity) {
+  public int advised(int platform, int severity)
+      throws IndexOutOfBoundsException, IllegalArgumentException {
     checkPlatform(platform);
     checkRange(severity, 1, HIGHEST_SEVERITY);
     int bits = 0;
@@ -329,7 +337,7 @@ public final class Portsmith {
 
   // ---- indexes, mirrors
 
-  public int pass(int minutes) {
+  public int pass(int minutes) throws IllegalArgumentException, IllegalStateException {
     checkRange(minutes, 0, LONGEST_PASS);
     if (minute + minutes > LAST_MINUTE) {
       throw new IllegalStateException("the last minute is 100000");
@@ -338,7 +346,7 @@ public final class Portsmith {
     return minute;
   }
 
-  public boolean role(int keys, int threshold, int signed) {
+  public boolean role(int keys, int threshold, int signed) throws IllegalArgumentException {
     checkRange(keys, 1, ALL_KEYS);
     checkRange(threshold, 1, Integer.bitCount(keys));
     checkRange(signed, 0, ALL_KEYS);
@@ -351,7 +359,7 @@ public final class Portsmith {
     return isChanged;
   }
 
-  public int index(int number, int ends, int signed) {
+  public int index(int number, int ends, int signed) throws IllegalArgumentException {
     checkRange(number, 0, HIGHEST_INDEX);
     checkRange(ends, 0, LAST_END);
     checkRange(signed, 0, ALL_KEYS);
@@ -368,7 +376,8 @@ public final class Portsmith {
     return 0;
   }
 
-  public int mirror(int mirror, int pack, int version, int content) {
+  public int mirror(int mirror, int pack, int version, int content)
+      throws IndexOutOfBoundsException, IllegalArgumentException {
     checkMirror(mirror);
     checkVersion(pack, version);
     if (content != NONE) {
@@ -380,14 +389,14 @@ public final class Portsmith {
     return gave;
   }
 
-  public boolean shut(int mirror, boolean is) {
+  public boolean shut(int mirror, boolean is) throws IndexOutOfBoundsException {
     checkMirror(mirror);
     boolean was = isShut[mirror];
     isShut[mirror] = is;
     return was;
   }
 
-  public int fetch(int pack, int version) {
+  public int fetch(int pack, int version) throws IndexOutOfBoundsException {
     checkVersion(pack, version);
     Version of = packs[pack].versions[version];
     if (of.isStored) {
@@ -406,14 +415,15 @@ public final class Portsmith {
     return NONE;
   }
 
-  public int lies(int mirror) {
+  public int lies(int mirror) throws IndexOutOfBoundsException {
     checkMirror(mirror);
     return lieCounts[mirror];
   }
 
   // ---- files, generations
 
-  public int file(int pack, int version, int path, int content, boolean isConfiguration) {
+  public int file(int pack, int version, int path, int content, boolean isConfiguration)
+      throws IndexOutOfBoundsException, IllegalArgumentException, IllegalStateException {
     checkVersion(pack, version);
     checkRange(path, 0, PATHS - 1);
     checkRange(content, 0, HIGHEST_CONTENT);
@@ -426,7 +436,8 @@ public final class Portsmith {
     return of.fileCount;
   }
 
-  public int divert(int pack, int path, int to) {
+  public int divert(int pack, int path, int to)
+      throws IndexOutOfBoundsException, IllegalArgumentException {
     if (pack != NONE) {
       checkPack(pack);
     }
@@ -438,7 +449,8 @@ public final class Portsmith {
     return installer.setDiversion(pack, path, to);
   }
 
-  public int install(int platform, int steps) {
+  public int install(int platform, int steps)
+      throws IndexOutOfBoundsException, IllegalArgumentException {
     checkPlatform(platform);
     checkRange(steps, 0, MOST_STEPS);
     return installer.bring(packs, locks[platform], steps);
@@ -448,7 +460,7 @@ public final class Portsmith {
     return installer.stepsTaken;
   }
 
-  public int edit(int path, int content) {
+  public int edit(int path, int content) throws IllegalArgumentException, IllegalStateException {
     checkRange(path, 0, PATHS - 1);
     checkRange(content, 0, HIGHEST_CONTENT);
     int had = installer.machine.contents[path];
@@ -459,7 +471,7 @@ public final class Portsmith {
     return had;
   }
 
-  public int path(int path, int what) {
+  public int path(int path, int what) throws IllegalArgumentException {
     checkRange(path, 0, PATHS - 1);
     checkRange(what, 0, 2);
     Machine machine = installer.machine;
@@ -469,7 +481,7 @@ public final class Portsmith {
     return what == 1 ? machine.owners[path] : machine.packed[path];
   }
 
-  public int installed(int pack) {
+  public int installed(int pack) throws IndexOutOfBoundsException {
     checkPack(pack);
     return installer.machine.versions[pack];
   }
@@ -478,14 +490,14 @@ public final class Portsmith {
     return installer.asideCount;
   }
 
-  public boolean run(int generation, boolean is) {
+  public boolean run(int generation, boolean is) throws IndexOutOfBoundsException {
     Generation of = keptGeneration(generation);
     boolean was = of.isRunning;
     of.isRunning = is;
     return was;
   }
 
-  public int rollback(int generation) {
+  public int rollback(int generation) throws IndexOutOfBoundsException {
     return installer.returnTo(keptGeneration(generation));
   }
 

@@ -14,20 +14,22 @@ import java.util.regex.Pattern;
 
 /** Promise 1, the face of the class, and what LANGUAGE.md says of its text. */
 public final class FaceTest {
+  // Behind each one what it throws: I, A, S for IndexOutOfBounds, IllegalArgument, IllegalState.
   private static final String[] METHODS = {
-      "int type(long,int)", "int wipe()", "int fault()", "int scheme(int,int)",
-      "int version(int,int,int,int,int)", "int need(int,int,int,int,int,int)",
-      "int conflict(int,int,int)", "int provide(int,int,int,int)",
-      "boolean yank(int,int,boolean)", "int compare(int,int,int)", "int within(int)",
-      "int wish(int,int)", "int unwish()", "int policy(int)", "int solve(int,int)",
-      "int proposed(int,int)", "int closures(int)", "int story(int)", "int lock(int)",
-      "int locked(int,int)", "boolean holds(int)", "int advise(int,int)", "int advised(int,int)",
-      "int pass(int)", "boolean role(int,int,int)", "int index(int,int,int)",
-      "int mirror(int,int,int,int)", "boolean shut(int,boolean)", "int fetch(int,int)",
-      "int lies(int)", "int file(int,int,int,int,boolean)", "int divert(int,int,int)",
-      "int install(int,int)", "int steps()", "int edit(int,int)", "int path(int,int)",
-      "int installed(int)", "int aside()", "boolean run(int,boolean)", "int rollback(int)",
-      "int collect()", "int generation()", "int generations()"};
+      "int type(long,int) AS", "int wipe()", "int fault()", "int scheme(int,int) IA",
+      "int version(int,int,int,int,int) IAS", "int need(int,int,int,int,int,int) IAS",
+      "int conflict(int,int,int) IAS", "int provide(int,int,int,int) IAS",
+      "boolean yank(int,int,boolean) I", "int compare(int,int,int) I", "int within(int) IA",
+      "int wish(int,int) IAS", "int unwish()", "int policy(int) A", "int solve(int,int) I",
+      "int proposed(int,int) I", "int closures(int) I", "int story(int) I", "int lock(int) IS",
+      "int locked(int,int) I", "boolean holds(int) I", "int advise(int,int) IAS",
+      "int advised(int,int) IA", "int pass(int) AS", "boolean role(int,int,int) A",
+      "int index(int,int,int) A", "int mirror(int,int,int,int) IA", "boolean shut(int,boolean) I",
+      "int fetch(int,int) I", "int lies(int) I", "int file(int,int,int,int,boolean) IAS",
+      "int divert(int,int,int) IA", "int install(int,int) IA", "int steps()",
+      "int edit(int,int) AS", "int path(int,int) A", "int installed(int) I", "int aside()",
+      "boolean run(int,boolean) I", "int rollback(int) I", "int collect()", "int generation()",
+      "int generations()"};
 
   private static final String[] EXCEPTIONS = {"IllegalStateException", "IllegalArgumentException",
       "IndexOutOfBoundsException", "ArithmeticException", "UnsupportedOperationException",
@@ -92,7 +94,14 @@ public final class FaceTest {
     for (Class<?> type : method.getParameterTypes()) {
       types.add(type.getName());
     }
-    return method.getReturnType() + " " + method.getName() + "(" + String.join(",", types) + ")";
+    StringBuilder thrown = new StringBuilder();
+    for (Class<?> type : method.getExceptionTypes()) {
+      String name = type.getSimpleName();
+      thrown.append(name.startsWith("Index") ? 'I' : name.startsWith("IllegalA") ? 'A' : 'S');
+    }
+    String shape = method.getReturnType() + " " + method.getName() + "("
+        + String.join(",", types) + ") " + thrown;
+    return shape.trim();
   }
 
   private static void newObject() {
@@ -135,7 +144,7 @@ public final class FaceTest {
   }
 
   private static void lengths(String code) {
-    Matcher method = Pattern.compile("(?m)^( +)[a-z][\\w<>\\[\\] ]* (\\w+)\\(([^;{}]*)\\) \\{\n"
+    Matcher method = Pattern.compile("(?m)^( +)[a-z][\\w<>\\[\\] ]* (\\w+)\\(([^;{}()]*)\\)[\\w,\\s]* \\{\n"
         + "(?s)(.*?)\n\\1\\}").matcher(code);
     int count = 0;
     while (method.find()) {
