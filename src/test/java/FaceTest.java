@@ -38,6 +38,10 @@ public final class FaceTest {
   public static void main(String[] args) throws IOException {
     constants();
     members();
+    fields(Portsmith.class);
+    for (Class<?> inside : Portsmith.class.getDeclaredClasses()) {
+      fields(inside);
+    }
     newObject();
     String source = Files.readString(Path.of(args[0]));
     text(source);
@@ -87,6 +91,20 @@ public final class FaceTest {
         Check.holds("inside " + method, false, () -> names.contains(method.getName()));
       }
     }
+  }
+
+  private static void fields(Class<?> of) {
+    int count = 0;
+    for (Field field : of.getDeclaredFields()) {
+      if (Modifier.isStatic(field.getModifiers())) {
+        Check.holds("final: " + field, true, () -> Modifier.isFinal(field.getModifiers()));
+        Check.holds("a constant: " + field, true, () -> field.getType() == int.class);
+      } else {
+        count++;
+      }
+    }
+    int fields = count;
+    Check.holds("at most twenty fields: " + of, true, () -> fields <= 20);
   }
 
   private static String shape(Method method) {

@@ -30,6 +30,8 @@ public final class SolveTest {
     proposals();
     locks();
     holds();
+    oneCallAfterAnother();
+    oneChoiceAfterAnother();
     advisories();
     refusals();
     Check.end();
@@ -588,6 +590,46 @@ public final class SolveTest {
     Check.holds("a conflict that does not hold", true, () -> x.holds(0));
     Check.conflict(x, 1, 0, 0, "*");
     Check.holds("one that holds", false, () -> x.holds(0));
+  }
+
+  /** What one call looked at says nothing in the next one. */
+  private static void oneCallAfterAnother() {
+    Portsmith x = new Portsmith();
+    for (int pack = 0; pack < 6; pack++) {
+      Check.version(x, pack, 1000);
+      Check.version(x, pack, 2000);
+    }
+    Check.wish(x, 0, "=1", 0);
+    Check.wish(x, 5, "=1", 0);
+    x.solve(0, NONE);
+    x.lock(0);
+    Check.holds("the lock holds", true, () -> x.holds(0));
+    x.unwish();
+    Check.wish(x, 0, "*", 0);
+    Check.wish(x, 5, "*", 0);
+    Check.need(x, 0, 0, 4, "=9");
+    Check.need(x, 5, 0, 4, "=9");
+    Check.holds("it holds no more", false, () -> x.holds(0));
+    Check.is("one closure is left", 1, () -> x.closures(0));
+    Check.holds("it still does not hold", false, () -> x.holds(0));
+    Check.is("both change", 2, () -> x.solve(0, NONE));
+    told("to the other versions", x, 0, 1, NONE, NONE, NONE, NONE, 1);
+    Check.holds("the lock is not yet so", false, () -> x.holds(0));
+    Check.is("no story", NONE, () -> x.story(0));
+    x.lock(0);
+    Check.holds("now it holds", true, () -> x.holds(0));
+  }
+
+  /** A version that was tried, and cannot be, is in no way of the choices behind it. */
+  private static void oneChoiceAfterAnother() {
+    Portsmith x = new Portsmith();
+    Check.version(x, 0, 1000);
+    x.provide(0, 0, 1, 1000);
+    Check.version(x, 1, 1000);
+    Check.version(x, 1, 2000);
+    Check.need(x, 1, 0, 4, "*");
+    Check.wish(x, 1, "*", 0);
+    Check.is("0, or 1 in its version 1, or both", 3, () -> x.closures(0));
   }
 
   private static void advisories() {
