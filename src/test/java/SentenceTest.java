@@ -25,6 +25,7 @@ public final class SentenceTest {
     indexAcceptedLast();
     whatWasToldForAVersion();
     storeIsOfAVersion();
+    theFirstMirrorThatGivesIt();
     yankedVersionsCome();
     filesComeWithAnInstall();
     configurationsByDiversions();
@@ -526,6 +527,31 @@ public final class SentenceTest {
     Check.is("whatever a mirror gives", 3, () -> x.fetch(0, 1));
     Check.is("which is no lie then", 0, () -> x.lies(1));
     Check.is("from the first that is open", 1, () -> x.fetch(1, 1));
+  }
+
+  // "otherwise from the first mirror that gives its content": however often it lied before.
+  private static void theFirstMirrorThatGivesIt() {
+    Portsmith x = new Portsmith();
+    for (int version = 0; version < 4; version++) {
+      x.version(0, 1000, 0, 0, 5);
+    }
+    for (int mirror = 0; mirror < 3; mirror++) {
+      x.mirror(mirror, 0, 0, 6);
+    }
+    for (int time = 1; time <= 20; time++) {
+      Check.is("all lie", NONE, () -> x.fetch(0, 0));
+      int due = time;
+      Check.is("each time", due, () -> x.lies(2));
+    }
+    Check.is("from 0", 0, () -> x.fetch(0, 1));
+    x.shut(0, true);
+    Check.is("from 1", 1, () -> x.fetch(0, 2));
+    x.shut(1, true);
+    Check.is("from 2", 2, () -> x.fetch(0, 3));
+    for (int mirror = 0; mirror < 3; mirror++) {
+      int of = mirror;
+      Check.is("lies as before", 20, () -> x.lies(of));
+    }
   }
 
   // "Installs the lock of a platform", "To fetch a version": a yanked one, or one that no closure
